@@ -9,6 +9,7 @@ final class BeliefsTest {
     likeliest();
     worth();
     nextAndRight();
+    farOnes();
     refusals();
     buys();
     buysTies();
@@ -174,6 +175,44 @@ final class BeliefsTest {
     check.due("14 an OPEN one without a ROW", x.right(0, 0, 0), NONE);
   }
 
+  /** Ten SACKS, six BUYERS: the last BUYER hears well, the others nothing (3 of 12 for each). */
+  private static void farOnes() {
+    BlindSacks x = new BlindSacks();
+    x.mend(0, 1, 1);
+    for (int k = 0; k < 10; k++) x.sack(k % 6);
+    for (int k = 0; k < 6; k++) {
+      x.buyer(0, k == 5 ? 1 : 6);
+      x.mend(k, 8, k == 5 ? 11 : 3);
+    }
+    x.mend(9, 5, 13);
+    Check.bytes(x, 0, 0, 0, 1, 9, 0, 1);
+    believed(x, 50, 0, 33, 38);
+    believed(x, 59, 0, 33, 38);
+    believed(x, 59, 5, 1, 38);
+    believed(x, 40, 0, 1, 6);
+    believed(x, 49, 0, 1, 6);
+    believed(x, 58, 0, 1, 6);
+    check.due("11 of BUYER 5", x.likeliest(0, 50, 0), 0);
+    // (0*33 + 20 + 20 + 30 + 40 + 50) by 38
+    fraction("12 of BUYER 5", x.worth(0, 50, 0), x.worth(0, 50, 1), 80, 19);
+    fraction("12 of BUYER 5, SACK 9", x.worth(0, 59, 0), x.worth(0, 59, 1), 80, 19);
+    fraction("12 of BUYER 4", x.worth(0, 49, 0), x.worth(0, 49, 1), 25, 1);
+    check.due("11 of BUYER 5, ASKED 10", x.likeliest(0, 50, 1), 0);
+    check.due("11 of BUYER 4, ASKED 13", x.likeliest(0, 49, 1), 1);
+    // SOUND by EAR 11: GOOD 0 behind 1, another behind 0: 33 + 33 + 1 + 1 by 216
+    check.due("13 of BUYER 5, SACK 1", x.next(0, 51), 0);
+    fraction("14 of BUYER 5, SACK 1", x.right(0, 51, 0), x.right(0, 51, 1), 17, 54);
+    check.due("13 of BUYER 4, SACK 1", x.next(0, 41), 3);
+    fraction("14 of BUYER 4, SACK 1", x.right(0, 41, 0), x.right(0, 41, 1), 1, 6);
+    check.due("13 of BUYER 5, SACK 0", x.next(0, 50), 3);
+    fraction("14 of BUYER 5, SACK 0", x.right(0, 50, 0), x.right(0, 50, 1), 33, 38);
+    x.open(9);
+    check.due("13 SACK 9 is OPEN", x.next(0, 59), -5);
+    check.due("13 SACK 5 is not", x.next(0, 55), 0);
+    fraction("14 SACK 9 is OPEN", x.right(0, 59, 0), x.right(0, 59, 1), 1, 1);
+    fraction("14 SACK 8 is not", x.right(0, 58, 0), x.right(0, 58, 1), 17, 54);
+  }
+
   /** What the five calls by LOOKS answer to a shelf and a BUYER and SACK. */
   private static void refused(BlindSacks x, int shelf, int bs, long due) {
     String at = " of shelf " + shelf + ", bs " + bs;
@@ -276,6 +315,12 @@ final class BeliefsTest {
     bought(x, 20, 20, 4);
     bought(x, 30, 30, 5);
     bought(x, 40, 40, 7);
+    x.mend(0, 5, 20);
+    x.mend(2, 5, 10);
+    bought(x, 20, 20, 1);
+    x.mend(0, 5, 10);
+    x.mend(1, 5, 20);
+    bought(x, 20, 20, 2);
     Check.law(x, "a");
     bought(x, 40, 0, 0);
     x.mend(1, 5, 0);

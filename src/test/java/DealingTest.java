@@ -57,9 +57,15 @@ final class DealingTest {
 
   private static void dealtTies() {
     BlindSacks x = new BlindSacks();
+    for (int k = 0; k < 6; k++) x.buyer(0, 6);
+    for (int k = 0; k < 6; k++) check.due("16 no SACK", x.dealt(k), -2);
+    x = new BlindSacks();
     for (int k = 0; k < 10; k++) x.sack(0);
     for (int k = 0; k < 6; k++) x.buyer(0, 6);
     check.due("16 six times 15", x.dealt(-1), 90);
+    x.mend(5, 0, 55);
+    check.due("16 155 by 6 is cut", x.dealt(-1), 90);
+    x.mend(5, 0, 50);
     for (int k = 0; k < 6; k++) check.due("16 all alike, by turns", x.dealt(k), k);
     for (int k = 0; k < 10; k++) x.mend(k, 5, k < 3 ? 26 : 25);
     check.due("16 nothing gained", x.dealt(-1), 0);
@@ -127,6 +133,12 @@ final class DealingTest {
     check.due("18 one of them", x.stock(0, 5), 1);
     check.due("18 nine of them", x.stock(0, 0), 9);
     check.due("18 none came", x.stock(0, 1), 0);
+    x.mend(9, 4, 5);
+    x.open(9);
+    check.due("18 SACK 9 is OPEN and has it", x.stock(0, 95), 1);
+    check.due("18 SACK 9 has no other", x.stock(0, 90), 0);
+    check.due("18 SACK 8 has the other", x.stock(0, 80), 1);
+    check.due("18 SACK 8 has it not", x.stock(0, 85), 0);
     Check.bytes(x, 0, 9, 0, 0, 0, 0, 2);
     check.due("18 one too many", x.stock(0, -1), 0);
     check.due("18 one too many, told", x.stock(0, 0), 0);
@@ -221,6 +233,9 @@ final class DealingTest {
       x.mend(g, 3, g >> 2);
     }
     check.due("19 all three", x.tells(1), 7);
+    x.mend(0, 3, 1);
+    check.due("19 GOODS 0 and 4 alike", x.tells(0), 2);
+    x.mend(0, 3, 0);
     x.mend(5, 1, 0);
     check.due("19 two alike", x.tells(0), 2);
     check.due("19 not told apart", x.tells(1), -2);
@@ -251,6 +266,7 @@ final class DealingTest {
     turns(x, 26, 2, 16, 0);
     turns(x, 35, 2, 0, 0);
     turns(x, 36, 2, 0, 0);
+    turns(x, 34, 2, 24, 0);
     turns(x, 4, 2, 4, 1);
     turns(x, 0, 2, 0, 0);
     turns(x, 10, 3, 20, 1);
@@ -262,6 +278,16 @@ final class DealingTest {
     turns(x, 20, 1, 0, 0);
     // the PURSE of 19 is less than the worth: at 20 he does not buy, at 10 he gains 15
     turns(x, 20, 2, 10, 0);
+    x.mend(0, 6, 10);
+    turns(x, 20, 2, 10, 0);
+    turns(x, 21, 2, 0, 0);
+    x.mend(0, 6, 999);
+    x.mend(5, 0, 55);
+    turns(x, 16, 1, 16, 0);
+    // worth 5, ASKED 5: raised, he lets it be and does not buy; let be, he makes it 0, and the seller, to whom
+    // 0 and not sold are alike, lets that be
+    Check.law(x, "5");
+    turns(x, 5, 3, 0, 0);
   }
 
   private static void byTurnsEdges() {
@@ -281,9 +307,18 @@ final class DealingTest {
     check.due("20 n 5", x.byTurns(0, 5, 0), -1);
     check.due("20 what 2", x.byTurns(0, 1, 2), -1);
     check.due("20 what -1", x.byTurns(0, 1, -1), -1);
-    check.due("20 SACK 2", x.byTurns(2, 1, 0), -1);
-    check.due("20 BUYER 1", x.byTurns(10, 1, 0), -1);
+    check.due("20 no SACK 2", x.byTurns(2, 1, 0), -1);
+    check.due("20 no BUYER 1", x.byTurns(10, 1, 0), -1);
     check.due("20 bs -1", x.byTurns(-1, 1, 0), -1);
+    for (int k = 1; k < 6; k++) x.buyer(k == 5 ? 999 : 0, 6);
+    for (int k = 2; k < 10; k++) x.sack(0);
+    x.mend(9, 5, 30);
+    check.due("20 paid by BUYER 5 for SACK 9", x.byTurns(59, 1, 0), 40);
+    check.due("20 raised for BUYER 5, SACK 9", x.byTurns(59, 1, 1), 1);
+    check.due("20 paid by BUYER 5 for SACK 2", x.byTurns(52, 1, 0), 20);
+    check.due("20 raised for BUYER 5, SACK 2", x.byTurns(52, 1, 1), 1);
+    check.due("20 not bought by BUYER 4", x.byTurns(49, 1, 0), 0);
+    check.due("20 not raised for BUYER 4", x.byTurns(49, 1, 1), 0);
     x.sell(0, 0);
     check.due("20 SOLD", x.byTurns(0, 1, 0), -5);
     x.open(1);

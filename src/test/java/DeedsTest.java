@@ -9,6 +9,7 @@ final class DeedsTest {
     led();
     image();
     imageOfLaterOnes();
+    imageOfAll();
     undoAndRedo();
     undoBesideDeeds();
     fortyChanges();
@@ -180,6 +181,23 @@ final class DeedsTest {
     check.due("27 LED counts none", x.led(0), 0);
   }
 
+  private static void imageOfAll() {
+    BlindSacks x = new BlindSacks();
+    for (int k = 0; k < 10; k++) x.sack(5);
+    for (int k = 0; k < 6; k++) x.buyer(100 + k, 6);
+    x.sell(9, 5);
+    x.open(8);
+    check.due("26 SOLD of ten", x.image(), 1);
+    for (int k = 0; k < 8; k++) x.sell(k, k % 6);
+    x.dusk();
+    check.due("27 SOLD of ten", x.back(), 1);
+    for (int k = 0; k < 10; k++) {
+      check.due("27 SOLD of SACK " + k, x.of(k, 9), k == 9 ? 5 : -1);
+      check.due("27 OPEN of SACK " + k, x.of(k, 10), k == 8 ? 1 : 0);
+    }
+    for (int k = 0; k < 6; k++) check.due("27 PURSE of BUYER " + k, x.of(k, 6), k == 5 ? 95 : 100 + k);
+  }
+
   // Promises 28 and 29
   private static void undoAndRedo() {
     BlindSacks x = new BlindSacks();
@@ -257,5 +275,18 @@ final class DeedsTest {
     x.undo();
     check.due("28 all but one", x.undo(), 38);
     check.due("28 the 43rd", x.of(0, 0), 43);
+    BlindSacks y = new BlindSacks();
+    for (int k = 0; k < 44; k++) y.mend(k % 6, k / 6 % 4, k / 24 + 1);
+    for (int k = 0; k < 40; k++) y.undo();
+    for (int g = 0; g < 6; g++) {
+      check.due("28 PRICE of " + g, y.of(g, 0), g < 4 ? 1 : 10 * g);
+      for (int what = 1; what < 4; what++) check.due("28 the others as at first", y.of(g, what), 0);
+    }
+    for (int k = 0; k < 40; k++) y.redo();
+    for (int g = 0; g < 6; g++) {
+      for (int what = 0; what < 4; what++) {
+        check.due("29 " + what + " of " + g + " again", y.of(g, what), 6 * what + g < 20 ? 2 : 1);
+      }
+    }
   }
 }

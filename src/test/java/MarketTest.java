@@ -158,7 +158,7 @@ final class MarketTest {
   private static void lawFaults() {
     String[] right = {"p", "0", "9999", "p;w", "p?w", "p?w;a?s;g", "p|w&a<s+g*b", "!p", "-p", "--p", "!-!p", "(p)", "((p))",
       "1<2&3<4", "(1<2)<3", "((((((p))))))", "!!!!!!p", "------1", "p---b", "-(-(-(1)))", "((((((p))))))+((((((w))))))",
-      "!(!((p+!w)))", "p/0%0", "0000", "1-1", "1*-1"};
+      "!(!((p+!w)))", "p?((((((p))))))", "(p|w)&(w|p)", "p?w|a;b", "p/0%0", "0000", "1-1", "1*-1"};
     for (String text : right) fault(text, -1);
     fault("", 0);
     fault("p+", 2);
@@ -250,6 +250,16 @@ final class MarketTest {
     value("4<4", 0);
     value("4=4", 1);
     value("5>4", 1);
+    value("4>4", 0);
+    value("3>4", 0);
+    value("3=4", 0);
+    value("1&5", 1);
+    value("5&1", 1);
+    value("1|0", 1);
+    value("0|5", 1);
+    value("(0|1)+1", 2);
+    value("1?0|1;7", 1);
+    value("0|0?3;7", 7);
     value("1+2<4+5", 1);
     value("1|0&0", 1);
     value("2&1>0", 1);
@@ -298,5 +308,12 @@ final class MarketTest {
     check.due("9 the old law stays", x.worthOf(0, 13), 43);
     check.due("9 another law", Check.law(x, "7"), 1);
     check.due("9 the other law", x.worthOf(0, 13), 7);
+    for (int k = 2; k < 10; k++) x.sack(0);
+    for (int k = 1; k < 6; k++) x.buyer(0, 6);
+    x.mend(9, 5, 77);
+    check.due("9 a law of all", Check.law(x, "a*10+b"), 1);
+    check.due("9 BUYER 5, SACK 9", x.worthOf(5, 90), 775);
+    check.due("9 BUYER 4, SACK 8", x.worthOf(4, 80), 104);
+    check.due("9 BUYER 4, SACK 9, GOOD 5", x.worthOf(4, 95), 774);
   }
 }
