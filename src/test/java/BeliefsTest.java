@@ -204,8 +204,11 @@ final class BeliefsTest {
     fraction("14 of BUYER 5, SACK 1", x.right(0, 51, 0), x.right(0, 51, 1), 17, 54);
     check.due("13 of BUYER 4, SACK 1", x.next(0, 41), 3);
     fraction("14 of BUYER 4, SACK 1", x.right(0, 41, 0), x.right(0, 41, 1), 1, 6);
+    check.due("13 of BUYER 4, SACK 8", x.next(0, 48), 3);
     check.due("13 of BUYER 5, SACK 0", x.next(0, 50), 3);
     fraction("14 of BUYER 5, SACK 0", x.right(0, 50, 0), x.right(0, 50, 1), 33, 38);
+    Check.law(x, "a");
+    fraction("12 by ASKED of SACK 9", x.worth(0, 59, 0), x.worth(0, 59, 1), 13, 1);
     x.open(9);
     check.due("13 SACK 9 is OPEN", x.next(0, 59), -5);
     check.due("13 SACK 5 is not", x.next(0, 55), 0);
@@ -321,6 +324,12 @@ final class BeliefsTest {
     x.mend(0, 5, 10);
     x.mend(1, 5, 20);
     bought(x, 20, 20, 2);
+    // ASKED 10, 15, 15, 20: SACKS 1 and 2 are 6 by bits, SACKS 0 and 3 are 9
+    x.mend(1, 5, 15);
+    x.mend(2, 5, 15);
+    x.sack(0);
+    x.mend(3, 5, 20);
+    bought(x, 30, 30, 6);
     Check.law(x, "a");
     bought(x, 40, 0, 0);
     x.mend(1, 5, 0);
