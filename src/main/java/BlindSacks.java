@@ -37,7 +37,7 @@ public final class BlindSacks {
     }
 
     public int sacks(int shelf, int i, int n) {
-        if (!isShelf(shelf) || i < 0 || n < 1 || n > SACKS) {
+        if (!isShelf(shelf) || n < 1 || n > SACKS) {
             return BAD;
         }
         int refused = shelves[shelf].bytesRefusal();
@@ -102,7 +102,7 @@ public final class BlindSacks {
         if (!market.holds(PURSE, buyer) || !isSackAndGood(sg)) {
             return BAD;
         }
-        return market.worthTo(buyer, sg / 10, sg % 10);
+        return market.worthTo(buyer, sg % 10, market.told(ASKED, sg / 10));
     }
 
     // ---- beliefs
@@ -520,7 +520,8 @@ public final class BlindSacks {
             return sold;
         }
 
-        int worthTo(int b, int s, int g) {
+        /** What a GOOD is worth to a BUYER, if so much is ASKED. */
+        int worthTo(int b, int g, int asked) {
             int price = told(PRICE, g);
             int wanted = told(WANTS, b) == g ? 1 : 0;
             if (!text.isTold()) {
@@ -528,26 +529,26 @@ public final class BlindSacks {
             }
             names[0] = price;
             names[1] = wanted;
-            names[2] = told(ASKED, s);
+            names[2] = asked;
             names[3] = soldNow();
             names[4] = g;
             names[5] = b;
             return Math.max(0, Math.min(HIGHEST, text.value(names)));
         }
 
-        /** WORTH (cut) of a SACK that is not OPEN, without LOOKS. */
-        int plainWorth(int b, int s) {
+        /** WORTH (cut) of a SACK that is not OPEN, without LOOKS, if so much is ASKED. */
+        int plainWorth(int b, int asked) {
             int sum = 0;
             for (int g = 0; g < GOODS; g++) {
-                sum += worthTo(b, s, g);
+                sum += worthTo(b, g, asked);
             }
             return sum / GOODS;
         }
 
         /** Whether a SACK is SOLD to a BUYER to whom a GOOD is worth less than ASKED. */
         boolean groans(int s, int g) {
-            int b = told(SOLD, s);
-            return b >= 0 && worthTo(b, s, g) < told(ASKED, s);
+            int b = told(SOLD, s), asked = told(ASKED, s);
+            return b >= 0 && worthTo(b, g, asked) < asked;
         }
 
         /** How many GOODS give the same as another one by the senses of these bits. */
@@ -854,8 +855,9 @@ public final class BlindSacks {
         /** WORTH, times the total of the weights. */
         long worthSum(int b, int s) {
             long sum = 0;
+            int asked = market.told(ASKED, s);
             for (int g = 0; g < GOODS; g++) {
-                sum += weights[g] * market.worthTo(b, s, g);
+                sum += weights[g] * market.worthTo(b, g, asked);
             }
             return sum;
         }
@@ -897,6 +899,8 @@ public final class BlindSacks {
         private static final int DIGIT = 11, DIGITS = 1771561;
         private static final int[] PLACES = {161051, 14641, 1331, 121, 11, 1};
         private static final long NO_DEAL = -1;
+        // BY TURNS in one number: what is paid, and behind it in three digits what the BUYER gains; 0: not bought.
+        private static final int OUTCOME = 1000, MOST_TURNS = 4;
 
         private final Market market;
         private final int[] gains = new int[SACKS];
@@ -965,8 +969,9 @@ public final class BlindSacks {
         }
 
         private void dealOne(int s) {
+            int asked = market.told(ASKED, s);
             for (int b = 0; b < market.buyerCount; b++) {
-                gains[b] = market.plainWorth(b, s) - market.told(ASKED, s);
+                gains[b] = market.plainWorth(b, asked) - asked;
             }
             // Downwards, so that what this SACK has served is not served by it again.
             for (int served = deals.length - 1; served >= 0; served--) {
@@ -1045,44 +1050,44 @@ public final class BlindSacks {
         }
 
         int turnsPaid(int b, int s, int n) {
-            int worth = market.plainWorth(b, s);
-            int limit = Math.min(worth, market.told(PURSE, b));
-            return paid(settled(market.told(ASKED, s), 0, n, worth, limit), limit);
+            return paid(outcome(b, market.told(ASKED, s), 0, n));
         }
 
         int turnsRaised(int b, int s, int n) {
-            int worth = market.plainWorth(b, s);
-            int limit = Math.min(worth, market.told(PURSE, b));
             int asked = market.told(ASKED, s);
-            int let = settled(asked, 1, n, worth, limit);
-            int raised = settled(moved(asked, true), 1, n, worth, limit);
-            return paid(raised, limit) > paid(let, limit) ? 1 : 0;
+            int let = outcome(b, asked, 1, n);
+            int raised = outcome(b, moved(asked, true), 1, n);
+            return paid(raised) > paid(let) ? 1 : 0;
         }
 
-        private static int paid(int asked, int limit) {
-            return asked <= limit ? asked : 0;
+        private static int paid(int outcome) {
+            return outcome / OUTCOME;
+        }
+
+        private static int gained(int outcome) {
+            return outcome % OUTCOME;
         }
 
         private static int moved(int asked, boolean bySeller) {
             return bySeller ? Math.min(Market.MOST[ASKED], asked + 10) : Math.max(0, asked - 10);
         }
 
-        /** What is ASKED behind n turns, from this turn on, as both do their best. */
-        private static int settled(int asked, int turn, int n, int worth, int limit) {
-            if (turn >= n || turn >= 4) {
-                return asked;
+        /** What comes of so much ASKED ahead of a turn, of n in all, as both do their best. */
+        private int outcome(int b, int asked, int turn, int n) {
+            if (turn >= n || turn >= MOST_TURNS) {
+                return sale(b, asked);
             }
             boolean sells = turn % 2 == 0;
-            int let = settled(asked, turn + 1, n, worth, limit);
-            int other = settled(moved(asked, sells), turn + 1, n, worth, limit);
-            if (sells) {
-                return paid(other, limit) > paid(let, limit) ? other : let;
-            }
-            return gained(other, worth, limit) > gained(let, worth, limit) ? other : let;
+            int let = outcome(b, asked, turn + 1, n);
+            int other = outcome(b, moved(asked, sells), turn + 1, n);
+            boolean moves = sells ? paid(other) > paid(let) : gained(other) > gained(let);
+            return moves ? other : let;
         }
 
-        private static int gained(int asked, int worth, int limit) {
-            return asked <= limit ? worth - asked : 0;
+        /** Behind the turns: WORTH is by what is ASKED then, for THE LAW may go by it. */
+        private int sale(int b, int asked) {
+            int worth = market.plainWorth(b, asked);
+            return worth >= asked && market.told(PURSE, b) >= asked ? asked * OUTCOME + worth - asked : 0;
         }
 
         int days(int seed, int n, int b, int what) {
@@ -1095,10 +1100,10 @@ public final class BlindSacks {
                     }
                     z = z * 1103515245 + 12345;
                     int asked = market.told(ASKED, s);
-                    if (purse >= asked && market.worthTo(b, s, (z >>> 8) % GOODS) >= asked) {
+                    if (purse >= asked && market.worthTo(b, (z >>> 8) % GOODS, asked) >= asked) {
                         purse -= asked;
                         bought++;
-                        gain += market.worthTo(b, s, market.told(IN, s)) - asked;
+                        gain += market.worthTo(b, market.told(IN, s), asked) - asked;
                     }
                 }
             }

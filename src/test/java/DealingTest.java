@@ -13,6 +13,7 @@ final class DealingTest {
     tells();
     byTurns();
     byTurnsEdges();
+    byTurnsByAsked();
     drawn();
     check.end();
   }
@@ -324,6 +325,42 @@ final class DealingTest {
     x.open(1);
     check.due("20 OPEN", x.byTurns(1, 1, 0), -5);
     check.due("20 BAD ahead of STATE", x.byTurns(1, 9, 0), -1);
+  }
+
+  // WORTH goes by ASKED as the turns made it, if THE LAW does
+  private static void byTurnsByAsked() {
+    BlindSacks x = new BlindSacks();
+    x.sack(0);
+    x.buyer(25, 6);
+    Check.law(x, "a");
+    turns(x, 10, 1, 20, 1);
+    turns(x, 15, 1, 25, 1);
+    turns(x, 16, 1, 16, 0);
+    // whatever is paid, he gains nothing: he lets it be, and pays 20
+    turns(x, 10, 2, 20, 1);
+    // at 30 he would not buy, and gains as little as at 20: he lets it be
+    turns(x, 30, 2, 0, 0);
+    // 20 is the most that he can pay, and the seller can still raise it behind him
+    turns(x, 10, 3, 20, 0);
+    x.mend(0, 6, 999);
+    turns(x, 10, 3, 30, 1);
+    turns(x, 95, 3, 99, 0);
+    // the less is ASKED, the less it is worth: at 30 he gains 30, at 20 he gains 20
+    Check.law(x, "2*a");
+    turns(x, 20, 2, 30, 1);
+    // worth 40 from 30 on, and 0 below: he lowers 40 to 30, but lets 30 be
+    Check.law(x, "a<30?0;40");
+    turns(x, 30, 1, 40, 1);
+    turns(x, 30, 2, 30, 0);
+    turns(x, 10, 1, 0, 0);
+    // worth 60 up to 20, and 0 above: raised to 30 he has to make it 20 again; let be, he would make it 10
+    Check.law(x, "a>20?0;60");
+    turns(x, 20, 1, 20, 0);
+    turns(x, 20, 2, 20, 1);
+    turns(x, 30, 2, 20, 0);
+    turns(x, 31, 2, 0, 0);
+    check.due("20 ASKED is as it was", x.of(0, 5), 31);
+    check.due("20 worth by ASKED as it was", x.worthOf(0, 0), 0);
   }
 
   // Promise 21

@@ -49,6 +49,9 @@ final class MarketTest {
   private static void sacksFromARow() {
     BlindSacks x = new BlindSacks();
     check.due("3 a missing row", x.sacks(0, 0, 1), 0);
+    check.due("3 a missing row, a place below 0", x.sacks(0, -1, 1), 0);
+    check.due("3 a missing row, the last place", x.sacks(0, Integer.MAX_VALUE, 1), 0);
+    check.due("3 BAD ahead of a missing row", x.sacks(0, -1, 0), -1);
     Check.bytes(x, 0, 9, 2, 99, 5, 0, 0, 7, 3);
     check.due("3 from place 1, ends within a two", x.sacks(0, 1, 10), 3);
     check.due("3 IN of the first", x.of(0, 4), 2);
@@ -71,9 +74,15 @@ final class MarketTest {
     check.due("3 a shelf below 0", x.sacks(-1, 0, 1), -1);
     check.due("3 n 0", x.sacks(0, 0, 0), -1);
     check.due("3 n 11", x.sacks(0, 0, 11), -1);
-    check.due("3 a place below 0", x.sacks(0, -1, 1), -1);
+    check.due("3 a place below 0", x.sacks(0, -1, 1), 0);
+    Check.bytes(x, 1, 1, 5, 1, 6);
+    check.due("3 a two ahead of the row", x.sacks(1, -2, 3), 0);
+    check.due("3 half a two ahead of the row", x.sacks(1, -1, 3), 0);
+    check.due("3 the least place", x.sacks(1, Integer.MIN_VALUE, 10), 0);
+    check.due("3 none came from below 0", x.count(0), 6);
     x.row(2, 1, 4);
     check.due("3 shorts", x.sacks(2, 0, 1), -12);
+    check.due("3 shorts, a place below 0", x.sacks(2, -1, 1), -12);
     x.body(0);
     x.keep(3, 0);
     check.due("3 a KNOT", x.sacks(3, 0, 1), -12);

@@ -62,11 +62,11 @@ final class Model {
   }
 
   int sacks(int shelf, int i, int n) {
-    if (!isShelf(shelf) || i < 0 || n < 1 || n > 10) return BAD;
+    if (!isShelf(shelf) || n < 1 || n > 10) return BAD;
     if (shelves[shelf] == null) return 0;
     if (!(shelves[shelf] instanceof byte[] row)) return -12;
     int came = 0;
-    for (long at = i; came < n && at + 1 < row.length && sacks.size() < 10; at += 2) {
+    for (long at = i; came < n && at >= 0 && at + 1 < row.length && sacks.size() < 10; at += 2) {
       int in = row[(int) at], asked = row[(int) at + 1];
       if (in < 0 || in > 5 || asked < 0 || asked > 99) break;
       sacks.get(sack(in)).asked = asked;
@@ -398,19 +398,28 @@ final class Model {
   /** What is paid, what the BUYER gains, and whether the first of these turns moved ASKED. */
   record Outcome(int paid, int gain, boolean moved) { }
 
-  private Outcome turn(int asked, int n, boolean seller, int worth, int purse) {
-    if (n == 0) return worth >= asked && purse >= asked ? new Outcome(asked, worth - asked, false) : new Outcome(0, 0, false);
-    Outcome let = turn(asked, n - 1, !seller, worth, purse);
-    Outcome move = turn(seller ? Math.min(99, asked + 10) : Math.max(0, asked - 10), n - 1, !seller, worth, purse);
+  private Outcome turn(int asked, int n, boolean seller, int b, int s) {
+    if (n == 0) return boughtFor(asked, b, s);
+    Outcome let = turn(asked, n - 1, !seller, b, s);
+    Outcome move = turn(seller ? Math.min(99, asked + 10) : Math.max(0, asked - 10), n - 1, !seller, b, s);
     boolean moves = seller ? move.paid > let.paid : move.gain > let.gain;
     return moves ? new Outcome(move.paid, move.gain, true) : new Outcome(let.paid, let.gain, false);
+  }
+
+  /** The SACK itself is ASKED so much for a while, so that WORTH is reckoned as anywhere else. */
+  private Outcome boughtFor(int asked, int b, int s) {
+    int before = sacks.get(s).asked;
+    sacks.get(s).asked = asked;
+    int worth = plain(b, s);
+    sacks.get(s).asked = before;
+    return worth >= asked && buyers.get(b).purse >= asked ? new Outcome(asked, worth - asked, false) : new Outcome(0, 0, false);
   }
 
   int byTurns(int bs, int n, int what) {
     if (!isBs(bs) || n < 1 || n > 4 || what < 0 || what > 1) return BAD;
     Sack s = sacks.get(bs % 10);
     if (!s.free()) return STATE;
-    Outcome o = turn(s.asked, n, true, plain(bs / 10, bs % 10), buyers.get(bs / 10).purse);
+    Outcome o = turn(s.asked, n, true, bs / 10, bs % 10);
     return what == 0 ? o.paid : o.moved ? 1 : 0;
   }
 

@@ -8,6 +8,7 @@ final class ModelTest {
   private static final String[] LAWS = {
     "p*(1+w)-a/5+s+(g>3)*b", "p", "w?p*2;p/2+a", "s>1?p-s*10;g=b?999;a+b*g", "-p+a*3%7", "!w&p>a|g<2", "1000*p", "p-9999",
     "(p+a)/(g-2)", "p%(b-1)+a", "w?0;g=0|g=5?p+!s;p-(a>30)*5", "0?7;!1?8", "-(-(-(-(-(-1)))))", "2*-p+300", "9999*9999*9999",
+    "a", "2*a-g", "a<30?p;40", "a>20?0;60", "99-a", "a%20*3",
   };
 
   private final Check check = new Check();
