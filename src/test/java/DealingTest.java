@@ -361,6 +361,9 @@ final class DealingTest {
     turns(x, 31, 2, 0, 0);
     check.due("20 ASKED is as it was", x.of(0, 5), 31);
     check.due("20 worth by ASKED as it was", x.worthOf(0, 0), 0);
+    Check.law(x, "999");
+    turns(x, 10, 2, 10, 1);
+    turns(x, 99, 4, 89, 0);
   }
 
   // Promise 21
@@ -405,5 +408,11 @@ final class DealingTest {
     x.mend(2, 5, 3);
     check.due("21 SOLD and OPEN ones draw nothing", x.drawn(0, 5, 0, 0), 2);
     check.due("21 GOOD 2 is in it", x.drawn(0, 5, 0, 1), -2);
+    // what it seems and what it is are worth by its own ASKED
+    x.mend(0, 6, 99);
+    x.mend(2, 5, 30);
+    Check.law(x, "a>50?0;a*2");
+    check.due("21 by ASKED", x.drawn(0, 5, 0, 0), 5);
+    check.due("21 30 for each", x.drawn(0, 5, 0, 1), 150);
   }
 }
