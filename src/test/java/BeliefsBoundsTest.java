@@ -581,9 +581,8 @@ final class BeliefsBoundsTest {
     market(c);
     c.bytes(0, 5, 0, 1);
     c.x.open(5);
-    for (int b = 0; b < 6; b++) right(c, 10 * b + 5, 1, 1);
-    for (int s = 0; s < 10; s++) {
-      if (s != 5) right(c, 50 + s, 5, 18);
+    for (int b = 0; b < 6; b++) {
+      for (int s = 0; s < 10; s++) right(c, 10 * b + s, s == 5 ? 1 : 5, s == 5 ? 1 : 18);
     }
     c.x.open(9);
     right(c, 59, 1, 1);
