@@ -158,6 +158,15 @@ final class ActsBoundsTest {
     c.due(c.x.trace(due.length), Case.BAD);
   }
 
+  @Says(promise = 32, value = "as they began; the first 24 are kept")
+  static void theLongestTraceOfTheLastBody(Case c) {
+    for (int k = 0; k < 50; k++) c.x.body(7);
+    c.x.act(49, 3, 1);
+    c.due(c.x.trace(0), 81);
+    c.due(c.x.trace(13), 1);
+    c.due(c.x.trace(14), Case.BAD);
+  }
+
   @Says(promise = 32, value = "numbers of the bodies that ran in the latest act()")
   static void aShorterActBehindALongerOne(Case c) {
     c.x.body(7);

@@ -384,6 +384,17 @@ final class BeliefsBoundsTest {
     c.due(c.x.likeliest(0, 0, 1), 1);
   }
 
+  @Says(promise = 11, value = "whether it is more than ASKED")
+  static void eachSackByItsOwnAsked(Case c) {
+    c.market(10, 6);
+    c.bytes(0);
+    for (int s = 0; s < 10; s++) c.x.mend(s, 5, 95 - 10 * s);
+    c.law("a+b-2");
+    for (int b = 0; b < 6; b++) {
+      for (int s = 0; s < 10; s++) c.due(c.x.likeliest(0, 10 * b + s, 1), b > 2 ? 1 : 0);
+    }
+  }
+
   @Says(promise = 11, value = "BAD, -11, -12.")
   static void likeliestOfWhatIsNone(Case c) {
     c.market(1, 1);

@@ -598,6 +598,20 @@ final class DealingBoundsTest {
   }
 
   @Says(promise = 20, value = "BY TURNS (bs as above): what is paid (what 0), whether he raises it (1). BAD")
+  static void eachBuyerByHisOwnPurse(Case c) {
+    c.market(10, 6);
+    c.law("999");
+    for (int b = 0; b < 6; b++) c.x.mend(b, 6, 98 + b % 2);
+    for (int s = 0; s < 10; s++) {
+      c.x.mend(s, 5, 99);
+      for (int b = 0; b < 6; b++) {
+        c.due(c.x.byTurns(10 * b + s, 1, 0), b % 2 == 0 ? 0 : 99);
+        c.due(c.x.byTurns(10 * b + s, 1, 1), 0);
+      }
+    }
+  }
+
+  @Says(promise = 20, value = "BY TURNS (bs as above): what is paid (what 0), whether he raises it (1). BAD")
   static void turnsOfWhatIsNone(Case c) {
     c.market(2, 2);
     c.due(c.x.byTurns(11, 1, 0), 20);
@@ -711,6 +725,18 @@ final class DealingBoundsTest {
     c.law("g?99;0");
     c.due(c.x.drawn(1, 1, 0, 0), 8);
     c.due(c.x.drawn(1, 1, 0, 1), -792);
+  }
+
+  @Says(promise = 21, value = "to a BUYER: he buys it for ASKED")
+  static void byWhatTheBuyerWants(Case c) {
+    c.market(1, 6);
+    c.x.mend(0, 4, 3);
+    c.x.mend(5, 7, 3);
+    c.law("w*50");
+    // of SEED 0: GOODS 0, 0, 3
+    c.due(c.x.drawn(0, 3, 5, 0), 1);
+    c.due(c.x.drawn(0, 3, 5, 1), 40);
+    c.due(c.x.drawn(0, 3, 0, 0), 0);
   }
 
   @Says(promise = 21, value = "VOID: BAD.")
