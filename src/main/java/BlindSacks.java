@@ -512,6 +512,15 @@ public final class BlindSacks {
             return told(SOLD, s) < 0 && !isOpen(s);
         }
 
+        /** How many OPEN SACKS hold a GOOD. */
+        int openWith(int g) {
+            int found = 0;
+            for (int s = 0; s < sackCount; s++) {
+                found += isOpen(s) && told(IN, s) == g ? 1 : 0;
+            }
+            return found;
+        }
+
         private int soldNow() {
             int sold = 0;
             for (int s = 0; s < sackCount; s++) {
@@ -614,14 +623,14 @@ public final class BlindSacks {
         int value(int[] names) {
             int top = 0;
             boolean skips = false;
-            for (int k = 0; k < size; k++) {
+            for (int k = 0; k < size && top < MOST; k++) {
                 char sign = signs[k];
                 if (skips) {
                     skips = sign != LINE_END;
                 } else if (sign == NUMBER) {
                     stack[top] = operands[k];
                     top++;
-                } else if (sign == NAME && operands[k] < names.length) {
+                } else if (sign == NAME && operands[k] >= 0 && operands[k] < names.length) {
                     stack[top] = names[operands[k]];
                     top++;
                 } else if (top < 1) {
@@ -805,8 +814,7 @@ public final class BlindSacks {
 
         void weigh(Shelf looks, int b, int s) {
             if (market.isOpen(s)) {
-                Arrays.fill(weights, 0);
-                weights[market.told(IN, s)] = 1;
+                know(market.told(IN, s));
                 return;
             }
             Arrays.fill(weights, 1);
@@ -818,6 +826,12 @@ public final class BlindSacks {
                 if (sack == s) {
                     learn(b, sense, seemed);
                 }
+            }
+        }
+
+        private void know(int good) {
+            for (int g = 0; g < GOODS; g++) {
+                weights[g] = g == good ? 1 : 0;
             }
         }
 
@@ -990,7 +1004,11 @@ public final class BlindSacks {
         }
 
         int dealtSack(long deal, int b) {
-            int digit = (int) (deal / PLACES[b] % DIGIT);
+            long behind = deal;
+            for (int later = b + 1; later < BUYERS; later++) {
+                behind /= DIGIT;
+            }
+            int digit = (int) (behind % DIGIT);
             return digit == 0 ? NOT : SACKS - digit;
         }
 
@@ -1004,11 +1022,7 @@ public final class BlindSacks {
                 if (left[g] < 0 || left[g] > 9) {
                     return false;
                 }
-            }
-            for (int s = 0; s < market.sackCount; s++) {
-                if (market.isOpen(s)) {
-                    left[market.told(IN, s)]--;
-                }
+                left[g] -= market.openWith(g);
             }
             return true;
         }
