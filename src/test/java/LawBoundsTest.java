@@ -91,6 +91,8 @@ final class LawBoundsTest {
   @Says(promise = 8, value = "a TEXT by THE TAPE (at most 120 bytes)")
   static void aTextOf120Bytes(Case c) {
     value(c, "10" + repeated("+1", 59), 69);
+    value(c, repeated("1+", 59) + "!0", 60);
+    value(c, "-9" + repeated("+8", 59), 463);
     value(c, "9999" + repeated("/1", 58), 999);
   }
 
@@ -305,6 +307,14 @@ final class LawBoundsTest {
     fault(c, "(-!(-!(5)))", 6);
     fault(c, "(-!(-!-5))", 6);
     fault(c, "(-!(-!!5))", 6);
+  }
+
+  /** In each pair, five operands wait for the one that comes last; each level counts as 1. */
+  @Says(promise = 8, value = SIX)
+  static void sixPairsInWhichAllWait(Case c) {
+    value(c, repeated("0|1&1<1+1*(", 6) + "0|1&1<1+1*9" + repeated(")", 6), 1);
+    value(c, repeated("0|1&1<1+1*(", 6) + "0|1&1<1+1*0" + repeated(")", 6), 0);
+    value(c, "99+2*(" + repeated("0|1&1<1+1*(", 5) + "0|1&1<1+1*9" + repeated(")", 6), 101);
   }
 
   @Says(promise = 8, value = SIX)
